@@ -92,13 +92,24 @@ public final class ModelTest {
     private static String answerOfClass(PipelineRunner x, int name, int[] a) {
         try {
             return "" + callClass(x, name, a);
-        } catch (IndexOutOfBoundsException e) {
-            return e.getClass() == IndexOutOfBoundsException.class ? "IOOBE" : "" + e;
-        } catch (IllegalArgumentException e) {
-            return e.getClass() == IllegalArgumentException.class ? "IAE" : "" + e;
-        } catch (IllegalStateException e) {
-            return e.getClass() == IllegalStateException.class ? "ISE" : "" + e;
+        } catch (RuntimeException thrown) {
+            return kindOf(thrown);
         }
+    }
+
+    /** Short names for the document's exceptions thrown by the class itself; all else is told whole. */
+    private static String kindOf(RuntimeException thrown) {
+        StackTraceElement[] trace = thrown.getStackTrace();
+        if (trace.length == 0 || !trace[0].getClassName().startsWith("PipelineRunner")) {
+            return "thrown by the machine: " + thrown;
+        }
+        if (thrown.getClass() == IndexOutOfBoundsException.class) {
+            return "IOOBE";
+        }
+        if (thrown.getClass() == IllegalArgumentException.class) {
+            return "IAE";
+        }
+        return thrown.getClass() == IllegalStateException.class ? "ISE" : "" + thrown;
     }
 
     private static String answerOfModel(Model x, int name, int[] a) {

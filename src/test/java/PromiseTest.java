@@ -65,10 +65,16 @@ public final class PromiseTest {
         try {
             call.accept(runner);
         } catch (RuntimeException thrown) {
-            got = thrown.getClass();
+            got = isThrownByTheClass(thrown) ? thrown.getClass() : "thrown by the machine: " + thrown;
         }
         due(what, got, due);
         due("all after " + what, all(runner), all(made.get()));
+    }
+
+    /** The library's lists throw IndexOutOfBoundsException too; the class must not lean on that. */
+    private static boolean isThrownByTheClass(RuntimeException thrown) {
+        StackTraceElement[] trace = thrown.getStackTrace();
+        return trace.length > 0 && trace[0].getClassName().startsWith("PipelineRunner");
     }
 
     /** All that an object with few stages and runs tells, in some 300 calls at most. */
@@ -876,6 +882,14 @@ public final class PromiseTest {
         due("cancel does not count those", y.cancel(0), 2);
         due("lose in a cancelled run", y.lose(1), 5);
         due("cancelled with the run, not by the stage", y.isGood(0, 0), false);
+        PipelineRunner again = withStages(3);
+        again.setMarks(0, true, false, true);
+        again.push(0, 0, 0, 0);
+        again.take(0);
+        again.take(1);
+        again.lose(0);
+        again.finish(1, false);
+        due("lower jobs and higher ones become CANCELLED", jobStates(again, 0, 0, 3), "5 4 5");
         PipelineRunner z = withStages(3);
         z.setMarks(0, true, false, true);
         z.push(0, 0, 0, 0);
