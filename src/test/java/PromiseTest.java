@@ -1,14 +1,7 @@
-import java.util.function.Consumer;
 import java.util.function.Supplier;
 
 /** Each promise by hand: ordinary inputs, the edges that the document names, and wrong inputs. */
-public final class PromiseTest {
-    private static final Class<IndexOutOfBoundsException> INDEX = IndexOutOfBoundsException.class;
-    private static final Class<IllegalArgumentException> ARGUMENT = IllegalArgumentException.class;
-    private static final Class<IllegalStateException> STATE = IllegalStateException.class;
-    private static int passed;
-    private static int failed;
-
+public final class PromiseTest extends Checks {
     public static void main(String[] args) {
         newObject();
         addStage();
@@ -43,140 +36,7 @@ public final class PromiseTest {
         entries();
         entriesAreDropped();
         entryInput();
-        System.out.println(passed + " checks passed, " + failed + " failed");
-        System.exit(failed == 0 ? 0 : 1);
-    }
-
-    // ---- what the tests say with
-
-    private static void due(String what, Object got, Object want) {
-        if (want.equals(got)) {
-            passed++;
-        } else {
-            failed++;
-            System.out.println(what + " answered " + got + ", due is " + want);
-        }
-    }
-
-    /** The call throws just this exception, and the object tells afterwards what one tells that it was not made on. */
-    private static void refused(String what, Supplier<PipelineRunner> made, Class<?> due, Consumer<PipelineRunner> call) {
-        PipelineRunner runner = made.get();
-        Object got = "nothing thrown";
-        try {
-            call.accept(runner);
-        } catch (RuntimeException thrown) {
-            got = isThrownByTheClass(thrown) ? thrown.getClass() : "thrown by the machine: " + thrown;
-        }
-        due(what, got, due);
-        due("all after " + what, all(runner), all(made.get()));
-    }
-
-    /** The library's lists throw IndexOutOfBoundsException too; the class must not lean on that. */
-    private static boolean isThrownByTheClass(RuntimeException thrown) {
-        StackTraceElement[] trace = thrown.getStackTrace();
-        return trace.length > 0 && trace[0].getClassName().startsWith("PipelineRunner");
-    }
-
-    /** All that an object with few stages and runs tells, in some 300 calls at most. */
-    private static String all(PipelineRunner x) {
-        StringBuilder told = new StringBuilder();
-        int stages = x.stages();
-        told.append(stages).append(" stages, ").append(x.runs()).append(" runs");
-        for (int i = 0; i < stages && stages < 4; i++) {
-            told.append("\nstage ").append(i).append(' ').append(x.jobs(i));
-            for (int j = 0; j < stages; j++) {
-                told.append(' ').append(x.needs(i, j));
-            }
-        }
-        for (int run = Math.max(0, x.runs() - 5); run < x.runs(); run++) {
-            told.append("\nrun ").append(run).append(' ').append(x.state(run));
-            for (int stage = 0; stage < stages && stages < 4; stage++) {
-                tellStage(told, x, run, stage);
-            }
-        }
-        for (int i = 0; i < x.queued() && i < 10; i++) {
-            told.append("\nqueue ").append(x.queuedRun(i)).append(' ').append(x.queuedStage(i));
-        }
-        for (int i = 0; i < 4; i++) {
-            told.append("\nworker ").append(x.workerRun(i)).append(' ').append(x.workerStage(i));
-        }
-        for (int i = 0; i < x.entries(); i++) {
-            told.append("\nentry ").append(x.entryStage(i)).append(' ').append(key(x, i));
-        }
-        return told.toString();
-    }
-
-    private static void tellStage(StringBuilder told, PipelineRunner x, int run, int stage) {
-        try {
-            told.append("; ").append(x.isGood(run, stage)).append(' ').append(x.artifacts(run, stage));
-        } catch (IndexOutOfBoundsException none) {
-            told.append("no stage");
-            return;
-        }
-        for (int job = 0; job < 3; job++) {
-            tellJob(told, x, run, stage, job);
-        }
-    }
-
-    private static void tellJob(StringBuilder told, PipelineRunner x, int run, int stage, int job) {
-        try {
-            told.append(", ").append(x.jobState(run, stage, job)).append(' ');
-            told.append(x.attempts(run, stage, job)).append(' ').append(x.restored(run, stage, job));
-        } catch (IndexOutOfBoundsException none) {
-            told.append("no job");
-        }
-    }
-
-    private static String key(PipelineRunner x, int place) {
-        return x.entryInput(place, 0) + " " + x.entryInput(place, 1) + " " + x.entryInput(place, 2);
-    }
-
-    /** The keys of all entries, the one whose latest use is the longest ago first. */
-    private static String keys(PipelineRunner x) {
-        StringBuilder told = new StringBuilder();
-        for (int i = 0; i < x.entries(); i++) {
-            told.append(i == 0 ? "" : ", ").append(key(x, i));
-        }
-        return told.toString();
-    }
-
-    /** The runs and stages of the jobs in the queue, from the first on. */
-    private static String queueOf(PipelineRunner x) {
-        StringBuilder told = new StringBuilder();
-        for (int i = 0; i < x.queued(); i++) {
-            told.append(i == 0 ? "" : ", ").append(x.queuedRun(i)).append('.').append(x.queuedStage(i));
-        }
-        return told.toString();
-    }
-
-    /** The states of the first jobs of a stage of a run. */
-    private static String jobStates(PipelineRunner x, int run, int stage, int count) {
-        StringBuilder told = new StringBuilder();
-        for (int i = 0; i < count; i++) {
-            told.append(i == 0 ? "" : " ").append(x.jobState(run, stage, i));
-        }
-        return told.toString();
-    }
-
-    /** An object with stages of one row each, of as many jobs as told. */
-    private static PipelineRunner withStages(int... jobs) {
-        PipelineRunner x = new PipelineRunner();
-        for (int each : jobs) {
-            x.addStage(1, each);
-        }
-        return x;
-    }
-
-    private static void takeAndFinish(PipelineRunner x, boolean isPassed) {
-        x.take(0);
-        x.finish(0, isPassed);
-    }
-
-    /** Pushes, takes the only job and passes it; the run is over then. */
-    private static int pushAndPass(PipelineRunner x, int first, int second, int third) {
-        int run = x.push(0, first, second, third);
-        takeAndFinish(x, true);
-        return run;
+        end();
     }
 
     // ---- the promises
@@ -306,12 +166,6 @@ public final class PromiseTest {
             due("jobs left", down.exclude(0, i / 4, i % 4), 15 - i);
         }
         due("the last of sixteen", down.jobs(0), 1);
-    }
-
-    private static PipelineRunner withMatrix(int rows, int columns) {
-        PipelineRunner x = new PipelineRunner();
-        x.addStage(rows, columns);
-        return x;
     }
 
     private static PipelineRunner withAnExcludedJob() {
