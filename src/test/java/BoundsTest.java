@@ -302,6 +302,13 @@ public final class BoundsTest extends Checks {
             }
             due("need of another stage", x.need(6, 0), 1);
             due("need beside one over others", chain(3).need(0, 2), 2);
+            PipelineRunner ahead = fallingChain(3);
+            ahead.addStage(1, 1);
+            due("need of one that needs others", ahead.need(3, 2), 1);
+            due("need of one of those", ahead.need(3, 0), 2);
+            PipelineRunner behind = chain(3);
+            behind.addStage(1, 1);
+            due("need of a stage that others need", behind.need(2, 3), 1);
         });
         sentence("Promise 3", NO_STAGE, () -> {
             outside(0, 2, BoundsTest::withARun, INDEX, (x, stage) -> x.need(stage, 0));
@@ -425,10 +432,31 @@ public final class BoundsTest extends Checks {
 
     private static void setStage() {
         sentence("Promise 5", A_STAGE, () -> stageNumbers((x, stage) -> x.setStage(stage, 2, 3)));
-        sentence("Promise 5", "- `retries`: 0 to 2",
-                () -> range(0, 2, BoundsTest::withEntries, ARGUMENT, (x, retries) -> x.setStage(1, retries, 1)));
-        sentence("Promise 5", "- `length`: 0 to 3",
-                () -> range(0, 3, BoundsTest::withEntries, ARGUMENT, (x, length) -> x.setStage(1, 1, length)));
+        sentence("Promise 5", "- `retries`: 0 to 2", () -> {
+            range(0, 2, BoundsTest::withEntries, ARGUMENT, (x, retries) -> x.setStage(1, retries, 1));
+            for (int retries = 0; retries <= 2; retries++) {
+                PipelineRunner x = withStages(1);
+                x.setStage(0, 2 - retries, 0);
+                x.setStage(0, retries, 0);
+                x.push(0, 0, 0, 0);
+                for (int fails = 0; fails <= retries; fails++) {
+                    x.take(0);
+                    due("fails before: " + fails, x.finish(0, false),
+                            fails < retries ? PipelineRunner.QUEUED : PipelineRunner.FAILED);
+                }
+            }
+        });
+        sentence("Promise 5", "- `length`: 0 to 3", () -> {
+            range(0, 3, BoundsTest::withEntries, ARGUMENT, (x, length) -> x.setStage(1, 1, length));
+            String[] want = {"", "5 -1 -1", "5 6 -1", "5 6 7"};
+            for (int length = 0; length <= 3; length++) {
+                PipelineRunner x = withStages(1);
+                x.setStage(0, 0, 3 - length);
+                x.setStage(0, 0, length);
+                pushAndPass(x, 5, 6, 7);
+                due("the key", keys(x), want[length]);
+            }
+        });
         sentence("Promise 5", "Returns how many cache entries are dropped by that.", () -> {
             due("all 10", withTenEntries().setStage(0, 0, 2), 10);
             due("none of 10, as the length is the same", withTenEntries().setStage(0, 2, 1), 0);
@@ -446,7 +474,11 @@ public final class BoundsTest extends Checks {
             outside(0, 3, BoundsTest::withARun, ARGUMENT, (x, length) -> x.setStage(0, 0, length));
             outside(0, 3, BoundsTest::withACancellingRun, ARGUMENT, (x, both) -> x.setStage(2, both, both));
         });
-        sentence("Promise 5", GOES_ON, () -> changesStages(x -> x.setStage(0, 2, 1)));
+        sentence("Promise 5", GOES_ON, () -> {
+            changesStages(x -> x.setStage(0, 2, 1));
+            // What they are already.
+            changesStages(x -> x.setStage(2, 0, 0));
+        });
     }
 
     private static void setMarks() {
@@ -467,7 +499,11 @@ public final class BoundsTest extends Checks {
             outside(0, 2, BoundsTest::withARun, INDEX, (x, stage) -> x.setMarks(stage, true, true, false));
             outside(0, 2, BoundsTest::withACancellingRun, INDEX, (x, stage) -> x.setMarks(stage, true, true, false));
         });
-        sentence("Promise 6", GOES_ON, () -> changesStages(x -> x.setMarks(0, true, true, false)));
+        sentence("Promise 6", GOES_ON, () -> {
+            changesStages(x -> x.setMarks(0, true, true, false));
+            // What they are already.
+            changesStages(x -> x.setMarks(2, false, false, true));
+        });
     }
 
     private static String afterAFail(boolean stopsFast, boolean mayFail) {
@@ -643,6 +679,7 @@ public final class BoundsTest extends Checks {
             due("none", x.cancel(0), 0);
             due("one of which one is excluded", cancelledOfExcluded(), 1);
             due("those that were not cancelled before", cancelledBesideStopped(), 1);
+            due("those that are RUNNING in a stage that has stopped", cancelledInStopped(), 2);
         });
         sentence("Promise 11", "Throws `IndexOutOfBoundsException` if there is no such run", () -> {
             outside(0, 0, BoundsTest::withACancellingRun, INDEX, (x, run) -> x.cancel(run));
@@ -665,6 +702,17 @@ public final class BoundsTest extends Checks {
         PipelineRunner x = withStages(2);
         x.exclude(0, 0, 0);
         x.push(0, 0, 0, 0);
+        return x.cancel(0);
+    }
+
+    private static int cancelledInStopped() {
+        PipelineRunner x = withStages(4);
+        x.setMarks(0, true, true, true);
+        x.push(0, 0, 0, 0);
+        x.take(0);
+        x.take(1);
+        x.take(2);
+        x.finish(1, false);
         return x.cancel(0);
     }
 
@@ -897,6 +945,9 @@ public final class BoundsTest extends Checks {
             due("all passed", x.isGood(0, 0), true);
             due("over, and not good", withARunThatEnded(PipelineRunner.BAD).isGood(0, 2), false);
             due("good beside one that is not", withARunThatEnded(PipelineRunner.BAD).isGood(0, 0), true);
+            PipelineRunner marked = withARunThatEnded(PipelineRunner.BAD);
+            marked.setMarks(2, false, true, true);
+            due("not good, though the stage may fail now", marked.isGood(0, 2), false);
         });
         sentence("Promise 17", "Throws `IndexOutOfBoundsException` if there is no such run, or it has no such stage",
                 () -> noRunOrStage((x, at) -> x.isGood(at[0], at[1])));
@@ -1122,6 +1173,14 @@ public final class BoundsTest extends Checks {
         sentence("Promise 23", "- `isPassed`: true if it is passed, false if it failed", () -> {
             due("true", withRunningJobsOnly().finish(0, true), PipelineRunner.PASSED);
             due("false", withRunningJobsOnly().finish(0, false), PipelineRunner.FAILED);
+            PipelineRunner x = withABusyWorker();
+            x.finish(2, false);
+            x.take(2);
+            due("false again", x.finish(2, false), PipelineRunner.FAILED);
+            PipelineRunner y = withABusyWorker();
+            y.finish(2, false);
+            y.take(2);
+            due("true then", y.finish(2, true), PipelineRunner.PASSED);
         });
         sentence("Promise 23", "Returns the state of the job then: PASSED, FAILED or QUEUED.", () -> {
             due("PASSED", withABusyWorker().finish(2, true), 3);
@@ -1269,8 +1328,17 @@ public final class BoundsTest extends Checks {
     }
 
     private static void entryInput() {
-        sentence("Promise 29", "- `place`: 0 for the entry whose latest use is the longest ago",
-                () -> entryPlaces((x, place) -> x.entryInput(place, 0)));
+        sentence("Promise 29", "- `place`: 0 for the entry whose latest use is the longest ago", () -> {
+            entryPlaces((x, place) -> x.entryInput(place, 0));
+            PipelineRunner x = withTenEntries();
+            for (int place = 0; place < 10; place++) {
+                due("the place " + place, x.entryInput(place, 0), place);
+            }
+            x.push(0, 0, 9, 9);
+            x.take(0);
+            due("the first when its entry was used", x.entryInput(0, 0), 1);
+            due("the last then", x.entryInput(9, 0), 0);
+        });
         sentence("Promise 29", "- `input`: 0 for the first one", () -> {
             for (int i = 0; i < 3; i++) {
                 int place = i;

@@ -1,10 +1,15 @@
+import java.lang.reflect.Executable;
+import java.lang.reflect.Field;
+import java.lang.reflect.Modifier;
 import java.nio.file.Files;
 import java.nio.file.Path;
+import java.util.ArrayList;
 import java.util.List;
+import java.util.Set;
 import java.util.regex.Matcher;
 import java.util.regex.Pattern;
 
-/** The rules of LANGUAGE.md that can be seen by reading the text of the class. */
+/** The rules of LANGUAGE.md that can be seen in the text of the class, and in what it calls. */
 public final class LanguageTest {
     private static final Path SOURCE = Path.of("src/main/java/PipelineRunner.java");
     private static final List<String> FORBIDDEN = List.of("->", "::", "\\btry\\b", "\\bcatch\\b", "\\bfinally\\b",
@@ -13,6 +18,18 @@ public final class LanguageTest {
             "\\bfloat\\b", "\\bObject\\b", "\"\\s*\\+", "\\+\\s*\"", ":\\s*\\w+List\\)", "\\bvar\\b");
     private static final List<String> THROWN = List.of("IndexOutOfBoundsException", "IllegalArgumentException",
             "IllegalStateException");
+    /** Those that rule 4 lists and the class uses; another one that is listed may join them. */
+    private static final Set<String> LIBRARY = Set.of("java.lang.Object.Object()",
+            "java.lang.IndexOutOfBoundsException.IndexOutOfBoundsException(java.lang.String)",
+            "java.lang.IllegalArgumentException.IllegalArgumentException(java.lang.String)",
+            "java.lang.IllegalStateException.IllegalStateException(java.lang.String)",
+            "java.lang.Integer.bitCount(int)", "java.lang.Math.min(int,int)", "java.util.ArrayList.ArrayList()",
+            "java.util.ArrayList.add(E)", "java.util.ArrayList.get(int)", "java.util.ArrayList.set(int,E)",
+            "java.util.ArrayList.remove(int)", "java.util.ArrayList.isEmpty()", "java.util.ArrayList.size()");
+    private static final int MOST_CLASSES = 12;
+    private static final int MOST_FIELDS = 20;
+    private static final int MOST_PARAMETERS = 7;
+    private static final int MOST_OPEN_CALLS = 8;
     private static int faults;
 
     public static void main(String[] args) throws Exception {
@@ -31,6 +48,8 @@ public final class LanguageTest {
         throwsAreListed(code);
         methodsAreShort(code);
         namesArePublicOrPrivate(code);
+        callsAreListedAndNotDeep(new Calls(SOURCE));
+        classesAreSmall();
         System.out.println(faults + " faults against the language");
         System.exit(faults == 0 ? 0 : 1);
     }
@@ -82,6 +101,41 @@ public final class LanguageTest {
             Pattern other = Pattern.compile("(?<!public )(?<!new )\\b(int|boolean|void|[A-Z]\\w*) " + open.group(1) + "\\(");
             if (other.matcher(code).find()) {
                 fault("a name twice: " + open.group(1));
+            }
+        }
+    }
+
+    private static void callsAreListedAndNotDeep(Calls calls) {
+        for (String called : calls.ofLibrary()) {
+            if (!LIBRARY.contains(called)) {
+                fault("a call that may not be listed: " + called);
+            }
+        }
+        if (calls.deepest() > MOST_OPEN_CALLS) {
+            fault("calls that go " + calls.deepest() + " deep");
+        }
+    }
+
+    private static void classesAreSmall() {
+        List<Class<?>> classes = new ArrayList<>(List.of(PipelineRunner.class.getDeclaredClasses()));
+        classes.add(PipelineRunner.class);
+        if (classes.size() > MOST_CLASSES) {
+            fault(classes.size() + " classes");
+        }
+        for (Class<?> each : classes) {
+            int fields = 0;
+            for (Field field : each.getDeclaredFields()) {
+                fields += Modifier.isStatic(field.getModifiers()) ? 0 : 1;
+            }
+            if (fields > MOST_FIELDS) {
+                fault(fields + " fields of " + each);
+            }
+            List<Executable> members = new ArrayList<>(List.of(each.getDeclaredMethods()));
+            members.addAll(List.of(each.getDeclaredConstructors()));
+            for (Executable member : members) {
+                if (member.getParameterCount() > MOST_PARAMETERS) {
+                    fault("too many parameters: " + member);
+                }
             }
         }
     }

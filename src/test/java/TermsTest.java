@@ -20,7 +20,6 @@ public final class TermsTest extends Checks {
     private static final int NONE = PipelineRunner.NONE;
 
     public static void main(String[] args) {
-        howLongAnObjectIsUsed();
         stages();
         needs();
         settings();
@@ -90,25 +89,6 @@ public final class TermsTest extends Checks {
 
     private static String times(int count, String each) {
         return (each + " ").repeat(count).trim();
-    }
-
-    // ---- an object
-
-    private static void howLongAnObjectIsUsed() {
-        sentence("What it is", "An object is used for at most 512 calls after it has been made", () -> {
-            PipelineRunner x = pushed(withStages(1));
-            for (int i = 0; i < 254; i++) {
-                x.take(i % 4);
-                x.lose(i % 4);
-            }
-            due("the 511th call", x.take(3), 0);
-            due("the 512th call", x.attempts(0, 0, 0), 255);
-            PipelineRunner refusing = pushed(withStages(1));
-            for (int i = 0; i < 509; i++) {
-                due("a refused call", Told.answer(y -> y.cancel(1), refusing), "IndexOutOfBoundsException");
-            }
-            due("the 512th call after refused ones", refusing.cancel(0), 1);
-        });
     }
 
     // ---- stages
@@ -447,6 +427,29 @@ public final class TermsTest extends Checks {
             y.addStage(1, 1);
             return y;
         }, INDEX, y -> y.jobState(0, 2, 0));
+        hasAllOfItsStages();
+    }
+
+    /** A run has all that was written of its stages before, in whatever order. */
+    private static void hasAllOfItsStages() {
+        PipelineRunner x = withMarks(true, true, false, 4, 1);
+        x.setStage(0, 2, 3);
+        x.exclude(0, 0, 2);
+        x.need(1, 0);
+        x.push(0, 1, 2, 3);
+        due("the need", queueOf(x), "0.0, 0.0, 0.0");
+        due("the excluded job", Told.answer(y -> y.jobState(0, 0, 2), x), "IndexOutOfBoundsException");
+        takeAndFinish(x, true);
+        due("the key", keys(x), "1 2 3");
+        for (int fails = 1; fails <= 5; fails++) {
+            x.take(0);
+            due("a fail", x.finish(0, false), fails == 5 ? FAILED : QUEUED);
+        }
+        due("it stops fast and may fail", jobStates(x, 0, 0, 2) + " " + x.isGood(0, 0), "3 4 true");
+        x.push(1, 1, 2, 3);
+        x.take(0);
+        x.take(1);
+        due("it can't be interrupted", x.cancel(1) + ": " + workerRuns(x), "3: 0 1 -1 -1");
     }
 
     private static String tellsOfRunZero(PipelineRunner x) {
@@ -473,6 +476,13 @@ public final class TermsTest extends Checks {
             due("one RUNNING", firstJobs(x, 0, 3), "3 0 0");
             x.finish(0, true);
             due("PASSED and FAILED, and one SKIPPED behind", firstJobs(x, 0, 3), "3 6 6");
+            PipelineRunner two = withStages(2, 1);
+            two.need(1, 0);
+            two.push(0, 0, 0, 0);
+            two.take(0);
+            two.take(1);
+            two.finish(1, true);
+            due("one RUNNING beside one PASSED", firstJobs(two, 0, 2), "2 0");
             PipelineRunner y = withMarks(true, true, true, 3, 1);
             y.need(1, 0);
             y.push(0, 0, 0, 0);
@@ -499,17 +509,20 @@ public final class TermsTest extends Checks {
         sentence(TERMS, "or, if the stage may fail, PASSED, FAILED, or CANCELLED because the stage had stopped",
                 TermsTest::goodThoughItFailed);
         sentence(TERMS, "It has stopped if it stops fast, and one of its jobs is FAILED.", () -> {
-            PipelineRunner x = withMarks(true, false, true, 3);
+            PipelineRunner x = withMarks(true, false, true, 4);
             x.setStage(0, 1, 0);
             x.push(0, 0, 0, 0);
             takeAndFinish(x, true);
-            due("a pass", jobStates(x, 0, 0, 3), "3 1 1");
+            due("a pass", jobStates(x, 0, 0, 4), "3 1 1 1");
             takeAndFinish(x, false);
-            due("a fail that is tried again", jobStates(x, 0, 0, 3), "3 1 1");
-            takeAndFinish(x, true);
+            due("a fail that is tried again", jobStates(x, 0, 0, 4), "3 1 1 1");
             x.take(0);
-            x.finish(0, false);
-            due("the last fail", jobStates(x, 0, 0, 3), "3 4 3");
+            x.take(1);
+            x.take(2);
+            due("a loss", x.lose(0) + ": " + jobStates(x, 0, 0, 4), "1: 3 2 1 2");
+            x.finish(2, false);
+            due("the last fail", jobStates(x, 0, 0, 4), "3 4 5 2");
+            due("a loss then", x.lose(1) + ": " + jobStates(x, 0, 0, 4), "5: 3 4 5 5");
             PipelineRunner y = pushed(withMarks(false, false, true, 3));
             takeAndFinish(y, false);
             due("one that does not stop fast", jobStates(y, 0, 0, 3), "4 1 1");
@@ -634,7 +647,27 @@ public final class TermsTest extends Checks {
                     cancelled.finish(0, true);
                     cancelled.finish(1, true);
                     due("one that is not GOING", cancelled.state(0), CANCELLED);
+                    theLargestRunEnds(true);
+                    theLargestRunEnds(false);
                 });
+    }
+
+    /** A run of as many jobs as there can be, while those of three more are in the queue behind them. */
+    private static void theLargestRunEnds(boolean isLastPassed) {
+        PipelineRunner x = new PipelineRunner();
+        for (int i = 0; i < 8; i++) {
+            x.addStage(4, 4);
+        }
+        for (int branch = 0; branch < 4; branch++) {
+            x.push(branch, 0, 0, 0);
+        }
+        for (int i = 0; i < 127; i++) {
+            takeAndFinish(x, true);
+        }
+        due("all but one of 128 jobs PASSED", x.state(0), GOING);
+        takeAndFinish(x, isLastPassed);
+        due("all of them over", x.state(0), isLastPassed ? GOOD : BAD);
+        due("the others", x.state(1) + " " + x.state(2) + " " + x.state(3) + ", " + x.queued(), "7 7 7, 384");
     }
 
     private static void theLowestIsTaken() {
@@ -774,6 +807,9 @@ public final class TermsTest extends Checks {
             y.take(1);
             y.finish(0, false);
             due("in a stage that has stopped", y.finish(1, true), PASSED);
+            for (int marks = 0; marks < 8; marks++) {
+                finishedWith((marks & 1) != 0, (marks & 2) != 0, (marks & 4) != 0, true, PASSED);
+            }
         });
         sentence(TERMS, "In each case the worker is free then.", () -> {
             for (int worker = 0; worker < 4; worker++) {
@@ -794,6 +830,21 @@ public final class TermsTest extends Checks {
                 due("its stage", x.workerStage(worker), 0);
             }
         });
+    }
+
+    /** A job finished in a run that is GOING, and one in a run that is CANCELLING if its stage can't be interrupted. */
+    private static void finishedWith(boolean stopsFast, boolean mayFail, boolean isInterruptible, boolean isPassed, int state) {
+        PipelineRunner x = pushed(withMarks(stopsFast, mayFail, isInterruptible, 2));
+        x.take(0);
+        due("in a run that is GOING", x.finish(0, isPassed) + " " + x.jobState(0, 0, 0), state + " " + state);
+        PipelineRunner y = withMarks(stopsFast, mayFail, isInterruptible, 2);
+        y.setStage(0, 2, 0);
+        y.push(0, 0, 0, 0);
+        y.take(0);
+        y.cancel(0);
+        due("in a cancelled run", Told.answer(z -> z.finish(0, isPassed), y),
+                isInterruptible ? "IllegalStateException" : "" + state);
+        due("its state there", y.jobState(0, 0, 0), isInterruptible ? CANCELLED : state);
     }
 
     private static void failedJobs() {
@@ -839,6 +890,7 @@ public final class TermsTest extends Checks {
                     lost.lose(0);
                 }
                 due("losses are no fails", failsUntilFailed(lost), retries + 1);
+                lossesBetweenFails(retries);
             }
         });
         sentence(TERMS, "otherwise it becomes FAILED", () -> {
@@ -847,6 +899,9 @@ public final class TermsTest extends Checks {
             due("without retries", x.finish(0, false), FAILED);
             due("its state", x.jobState(0, 0, 0), FAILED);
             due("the queue", x.queued(), 0);
+            for (int marks = 0; marks < 8; marks++) {
+                finishedWith((marks & 1) != 0, (marks & 2) != 0, (marks & 4) != 0, false, FAILED);
+            }
         });
         sentence(TERMS, "and, if the stage has stopped then, all QUEUED jobs of this stage of the run become CANCELLED", () -> {
             for (int failing = 0; failing < 16; failing++) {
@@ -882,6 +937,19 @@ public final class TermsTest extends Checks {
             due("this stage", jobStates(x, 0, 0, 4), "4 2 5 5");
             due("another stage, another run", queueOf(x), "0.1, 0.1, 1.0, 1.0, 1.0, 1.0, 1.1, 1.1");
         });
+    }
+
+    /** A loss does not make up for the fails before. */
+    private static void lossesBetweenFails(int retries) {
+        PipelineRunner x = withStages(1);
+        x.setStage(0, retries, 0);
+        x.push(0, 0, 0, 0);
+        for (int fails = 0; fails <= retries; fails++) {
+            x.take(fails);
+            due("fails before: " + fails, x.finish(fails, false), fails < retries ? QUEUED : FAILED);
+            x.take(3);
+            due("lost then", Told.answer(y -> y.lose(3), x), fails < retries ? "" + QUEUED : "IllegalStateException");
+        }
     }
 
     /** The two jobs fail in turn, until both should be FAILED. */
@@ -1177,6 +1245,8 @@ public final class TermsTest extends Checks {
             x.cancel(4);
             x.finish(0, true);
             due("passed in a run that is CANCELLING", keys(x), "1 1 -1, 1 2 -1, 1 5 -1");
+            madeByTheLastPass();
+            madeAgain();
         });
         sentence(TERMS, "if there are 10 then already, first the one whose latest use is the longest ago is dropped", () -> {
             PipelineRunner x = withLength(1);
@@ -1242,6 +1312,45 @@ public final class TermsTest extends Checks {
             }
             due("the others in their order", left.toString(), "00 20 01 21 02 22 ");
         });
+    }
+
+    /** The first job fails, is lost, and passes at last, in a stage that another job has stopped. */
+    private static void madeByTheLastPass() {
+        PipelineRunner x = withMarks(true, false, true, 2);
+        x.setStage(0, 1, 1);
+        x.push(0, 7, 0, 0);
+        takeAndFinish(x, false);
+        takeAndFinish(x, false);
+        x.take(0);
+        x.lose(0);
+        x.take(1);
+        x.take(0);
+        due("the jobs", jobStates(x, 0, 0, 2) + ", attempts " + x.attempts(0, 0, 0), "2 2, attempts 3");
+        x.finish(1, false);
+        due("failed, lost", keys(x), "");
+        x.finish(0, true);
+        due("passed at last", keys(x), "7 -1 -1");
+        due("the run is BAD, its entry is kept", x.state(0) + ": " + keys(x), "10: 7 -1 -1");
+        x.push(0, 8, 0, 0);
+        takeAndFinish(x, true);
+        x.cancel(1);
+        due("the run is CANCELLED, its entry is kept", x.state(1) + ": " + keys(x), "5: 7 -1 -1, 8 -1 -1");
+    }
+
+    /** A job whose entry is there when it is taken, but is dropped before it passes. */
+    private static void madeAgain() {
+        PipelineRunner x = withLength(1, 1, 0, 0);
+        x.push(0, 1, 0, 0);
+        x.take(0);
+        due("taken", x.restored(1, 0, 0) + ": " + keys(x), "1: 1 -1 -1");
+        for (int i = 0; i < 10; i++) {
+            x.push(1, 10 + i, 0, 0);
+            x.take(1);
+            x.finish(1, true);
+        }
+        due("dropped by ten others", key(x, 0) + ", " + key(x, 9), "10 -1 -1, 19 -1 -1");
+        x.finish(0, true);
+        due("made again", key(x, 0) + ", " + key(x, 9), "11 -1 -1, 1 -1 -1");
     }
 
     // ---- exceptions

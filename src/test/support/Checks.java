@@ -5,6 +5,7 @@ import java.util.ArrayList;
 import java.util.Comparator;
 import java.util.List;
 import java.util.Map;
+import java.util.Set;
 import java.util.TreeMap;
 import java.util.function.Consumer;
 import java.util.function.Supplier;
@@ -83,7 +84,11 @@ abstract class Checks {
         quote(section, words);
         about = section + ", '" + words + "': ";
         int before = passed + failed;
-        test.run();
+        try {
+            test.run();
+        } catch (RuntimeException thrown) {
+            due("its test", thrown, "nothing thrown");
+        }
         due("that it is tested", passed + failed > before, true);
         about = "";
         sentences++;
@@ -99,11 +104,16 @@ abstract class Checks {
         QUOTED.computeIfAbsent(section, none -> new ArrayList<>()).add(words);
     }
 
-    private static String section(String name) {
+    static String section(String name) {
         if (SECTIONS.isEmpty()) {
             readSections();
         }
         return SECTIONS.getOrDefault(name, "");
+    }
+
+    static Set<String> sectionNames() {
+        section("");
+        return SECTIONS.keySet();
     }
 
     private static void readSections() {
