@@ -8,6 +8,7 @@ import java.util.List;
 import java.util.Set;
 import java.util.regex.Matcher;
 import java.util.regex.Pattern;
+import javax.tools.ToolProvider;
 
 /** The rules of LANGUAGE.md that can be seen in the text of the class, and in what it calls. */
 public final class LanguageTest {
@@ -48,7 +49,12 @@ public final class LanguageTest {
         throwsAreListed(code);
         methodsAreShort(code);
         namesArePublicOrPrivate(code);
-        callsAreListedAndNotDeep(new Calls(SOURCE));
+        // A java that comes without its javac can't read calls; the text has been read all the same.
+        if (ToolProvider.getSystemJavaCompiler() == null) {
+            System.out.println("no compiler in this java: calls are not read");
+        } else {
+            callsAreListedAndNotDeep(new Calls(SOURCE));
+        }
         classesAreSmall();
         System.out.println(faults + " faults against the language");
         System.exit(faults == 0 ? 0 : 1);

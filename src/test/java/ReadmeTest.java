@@ -8,11 +8,11 @@ import java.util.Map;
 import java.util.regex.Matcher;
 import java.util.regex.Pattern;
 
-/** README.md is true: its calls answer what it says, and the files that it names are there. */
+/** README.md is true: its calls answer what it says, and the project's files that it names are there. */
 public final class ReadmeTest extends Checks {
     private static final Pattern CALL =
             Pattern.compile("(?:int (\\w+) = )?runner\\.(\\w+)\\(([^)]*)\\); *// (throws \\w+|-?\\w+): .*");
-    private static final Pattern FILE = Pattern.compile("(?<!\\w)(?:\\.\\./shared|src|\\.ci)/[\\w./]*\\w");
+    private static final Pattern FILE = Pattern.compile("(?<![\\w/])(?:src|\\.ci)/[\\w./]*\\w");
     private static final Pattern TEST = Pattern.compile("\\w+Test\\b");
 
     public static void main(String[] args) throws Exception {
